@@ -8,6 +8,7 @@ public final class BasesAndPartsTest {
         bases();
         basesEachOnce();
         basesAtTheirEdges();
+        mostBases();
         least();
         parts();
         partsFewest();
@@ -99,6 +100,18 @@ public final class BasesAndPartsTest {
         Desk.due("25 letters", d.bases(Desk.times("x", 17) + "ab"), "");
         d.member("cccccccc" + Desk.times("x", 16));
         Desk.due("25 letters are not cut", d.bases("ab" + Desk.times("x", 17)), "");
+    }
+
+    private static void mostBases() {
+        Desk d = new Desk();
+        int s = d.know("s");
+        d.member("cats");
+        for (int i = 0; i < 20; i++) {
+            d.rules.affix(true, s, d.know(Desk.nth(i)));
+            d.member("cat" + Desk.nth(i));
+        }
+        Desk.due("BASE 20", d.spelled(d.rules.base(d.know("cats"), 20)), "cat" + Desk.nth(19));
+        Desk.due("BASE 21", d.rules.base(d.know("cats"), 21), NONE);
     }
 
     private static void least() {

@@ -3,6 +3,7 @@ public final class KeysTest {
     public static void main(String[] args) {
         refusals();
         figures();
+        figureOfEachLetter();
         soundsBeginAndEnd();
         soundsBetween();
         soundsAtLast();
@@ -26,6 +27,9 @@ public final class KeysTest {
         Desk.due("key(0, 1)", d.rules.key(0, 1), StemRules.UNKNOWN);
         Desk.due("UNKNOWN before OUTSIDE", d.rules.key(2, 1), StemRules.UNKNOWN);
         Desk.due("the WORD is as it was", d.spelled(0), "robert");
+        d.know("schmidt");
+        d.rules.key(1, 0);
+        Desk.due("key of one before", d.shown(), "rabad");
     }
 
     private static void figures() {
@@ -34,6 +38,18 @@ public final class KeysTest {
                 "bfpv", "b000", "bab", "b100", "bhb", "b000", "bwhb", "b000", "byb", "b100", "hb", "h100",
                 "wwb", "w100", "acgjkqsxz", "a200", "adt", "a300", "al", "a400", "amn", "a500", "ar", "a600",
                 "abcdlmr", "a123", "generalizations", "g564", "sshs", "s000", "lloyd", "l300");
+    }
+
+    private static void figureOfEachLetter() {
+        Desk d = new Desk();
+        String due = "01230120022455012623010202";
+        for (int i = 0; i < 26; i++) {
+            String word = "a" + (char) ('a' + i);
+            Desk.due("key 0 of " + word, d.keyed(0, word), "a" + due.charAt(i) + "00");
+        }
+        for (char vowel : "aeiouy".toCharArray()) {
+            Desk.due("a like figure behind " + vowel, d.keyed(0, "c" + vowel + "k"), "c200");
+        }
     }
 
     private static void soundsBeginAndEnd() {
@@ -45,7 +61,7 @@ public final class KeysTest {
 
     private static void soundsBetween() {
         keys(1, "bevel", "bafal", "bobib", "babab", "aqaq", "agag", "azab", "asab", "amab", "anab",
-                "aknab", "anab", "akab", "acab", "aschab", "asab", "aphab", "afab", "ahab", "ahab",
+                "aknab", "anab", "azchab", "ascab", "akab", "acab", "aschab", "asab", "aphab", "afab", "ahab", "ahab",
                 "abhab", "abab", "ahbab", "abab", "ah", "a", "bawl", "bal", "bwal", "bwal", "ewb", "eb",
                 "wheeler", "walar", "hh", "h", "obb", "ob", "yhb", "yb", "awhab", "ahab", "eve", "ev", "beve", "baf",
                 "kevknock", "cafnac");

@@ -74,7 +74,7 @@ public final class StemsTest {
         steps(1, "feed", "feed", "agreed", "agree", "plastered", "plaster", "bled", "bled", "motoring", "motor",
                 "sing", "sing", "conflated", "conflate", "troubled", "trouble", "sized", "size", "hopping", "hop",
                 "tanned", "tan", "falling", "fall", "hissing", "hiss", "fizzed", "fizz", "failing", "fail",
-                "filing", "file", "fixing", "fix", "rowing", "row", "playing", "play", "cats", "cat");
+                "filing", "file", "realized", "realize", "resting", "rest", "fixing", "fix", "rowing", "row", "playing", "play", "cats", "cat");
         steps(2, "happy", "happi", "sky", "sky", "enjoy", "enjoi", "happily", "happili", "syzygy", "syzygi");
         steps(3, "relational", "relate", "conditional", "condition", "rational", "rational", "valenci", "valence",
                 "hesitanci", "hesitance", "digitizer", "digitize", "conformabli", "conformable", "radicalli", "radical",
@@ -89,7 +89,7 @@ public final class StemsTest {
                 "replacement", "replac", "adjustment", "adjust", "dependent", "depend", "adoption", "adopt",
                 "homologou", "homolog", "communism", "commun", "activate", "activ", "angulariti", "angular",
                 "homologous", "homolog", "effective", "effect", "bowdlerize", "bowdler", "decision", "decis",
-                "companion", "companion", "element", "element", "agement", "agement");
+                "companion", "companion", "nation", "nation", "analogousli", "analog", "element", "element", "agement", "agement");
         steps(6, "probate", "probat", "rate", "rate", "cease", "ceas", "controll", "controll", "agree", "agre");
         steps(7, "controll", "control", "roll", "roll", "probate", "probat");
     }
@@ -125,6 +125,8 @@ public final class StemsTest {
         for (int i = 0; i < words.length; i++) {
             Desk.due("measure of " + words[i], d.rules.measure(d.know(words[i])), due[i]);
         }
+        Desk.due("measure of one before", d.rules.measure(9), 2);
+        Desk.due("measure of 24 letters", d.rules.measure(d.know(Desk.times("ab", 12))), 12);
         Desk.due("measure of UNKNOWN", d.rules.measure(99), UNKNOWN);
         Desk.due("measure of -1", d.rules.measure(-1), UNKNOWN);
     }
@@ -206,6 +208,10 @@ public final class StemsTest {
         Desk.due("a ROW that does not leave what is GOOD is passed", first.stemmed(3, "mouse"), "mous");
         Desk.due("more goes than the ENDING has", first.stemmed(3, "unspeakable"), "uns");
 
+        Desk longer = new Desk();
+        longer.rules.row(longer.know("nings"), false, 1, NONE, false);
+        Desk.due("an ENDING longer than the WORD", longer.stemmed(3, "ings"), "ings");
+
         Desk stop = new Desk();
         int a = stop.know("a");
         stop.rules.row(a, false, 1, NONE, false);
@@ -230,8 +236,18 @@ public final class StemsTest {
         Desk.due("24 with what comes", grow.stemmed(3, Desk.times("a", 20) + "b"), Desk.times("a", 20) + "cccc");
         Desk.due("25 with what comes", grow.stemmed(3, Desk.times("a", 21) + "b"), Desk.times("a", 21) + "b");
         Desk.due("what comes does not make it GOOD", grow.stemmed(3, "ab"), "ab");
-        grow.rules.row(b, false, 0, NONE, false);
-        Desk.due("nothing goes", grow.stemmed(3, "ab"), "ab");
+
+        Desk still = new Desk();
+        int a = still.know("a");
+        still.rules.row(a, true, 0, NONE, false);
+        still.rules.row(a, false, 1, NONE, false);
+        Desk.due("nothing goes, nothing comes, 24 stay", still.stemmed(3, Desk.times("a", 24)), Desk.times("a", 24));
+
+        Desk done = new Desk();
+        int e = done.know("e");
+        done.rules.row(e, true, 0, NONE, true);
+        done.rules.row(e, true, 1, NONE, true);
+        Desk.due("WHOLE no more, though no letter went", done.stemmed(3, "mouse"), "mouse");
     }
 
     private static void huskTimes() {
