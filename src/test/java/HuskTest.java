@@ -11,6 +11,7 @@ public final class HuskTest {
         whatComes();
         goesOn();
         sixteenTimesAtMost();
+        goodByEachLetter();
         goodBeginsWithAVowel();
         goodHasThree();
         goodIsAskedBeforeOthersCome();
@@ -124,6 +125,16 @@ public final class HuskTest {
         Desk grow = new Desk();
         row(grow, "a", false, 0, "a", true);
         stems(grow, "aa", Desk.times("a", 18));
+    }
+
+    private static void goodByEachLetter() {
+        Desk.says("GOOD ... VOWELS are a e i o u.");
+        for (char c = 'a'; c <= 'z'; c++) {
+            Desk d = new Desk();
+            row(d, "s", false, 1, "", false);
+            stems(d, c + "bs", "aeiou".indexOf(c) >= 0 ? c + "b" : c + "bs",
+                    "bb" + c + "s", "aeiouy".indexOf(c) >= 0 ? "bb" + c : "bb" + c + "s");
+        }
     }
 
     private static void goodBeginsWithAVowel() {

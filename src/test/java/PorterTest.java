@@ -14,6 +14,7 @@ public final class PorterTest {
     public static void main(String[] args) {
         wordsAndStems();
         wordsOf1And2LettersStay();
+        vowelsAreV();
         yIsCOrV();
         measureCountsRows();
         measureUnknown();
@@ -70,6 +71,13 @@ public final class PorterTest {
         steps(2, "ay", "ay");
         Desk.says("WORDS of 1 and 2 letters stay as they are. (of 3 they do not)");
         stems("bas", "ba", "say", "sai", "ays", "ai", "ies", "i", "aed", "a");
+    }
+
+    private static void vowelsAreV() {
+        Desk.says("A letter is C, if it is no VOWEL ... VOWELS are a e i o u.");
+        for (char c = 'a'; c <= 'z'; c++) {
+            measures("b" + c + "b", "aeiouy".indexOf(c) >= 0 ? 1 : 0);
+        }
     }
 
     private static void yIsCOrV() {

@@ -21,6 +21,7 @@ public final class TapeAndWordsTest {
         outOutside();
         outIsTheLatest();
         spell();
+        the512thCall();
         Desk.end();
     }
 
@@ -315,5 +316,15 @@ public final class TapeAndWordsTest {
         Desk.due("1", d.spell(2), 1);
         Desk.due("its letter", d.shown(), "a");
         Desk.due("UNKNOWN", d.spell(3), UNKNOWN);
+    }
+
+    private static void the512thCall() {
+        Desk.says("An object is used for at most 512 calls after it has been made");
+        Desk d = new Desk();
+        while (d.calls() < 511) {
+            d.feed(0x61616161, 0, 0, 0, 0);
+        }
+        Desk.due("the 512th", d.text(0), 20);
+        Desk.due("calls", d.calls(), 512);
     }
 }
